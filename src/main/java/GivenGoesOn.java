@@ -2,7 +2,7 @@
 public final class GivenGoesOn {
     public static final int NONE = -1, UNKNOWN = -101, OUTSIDE = -102, STATE = -103, FULL = -104;
 
-    // REST may be below 0: what refuses it lies below any that 512 calls can make.
+    // REST may be below 0, so the document gives its refusal a number of its own.
     private static final int REST_UNKNOWN = -100001;
 
     private static final int MOST_PEOPLE = 8;
@@ -339,16 +339,17 @@ public final class GivenGoesOn {
     }
 
     private long withPerson(long h, int person) {
-        long mixed = h;
-        for (int what = 0; what < PERSON_QUESTIONS; what++) mixed = mixed(mixed, about(person, what));
-        return mixed(mixed, rest(person));
+        long with = h;
+        for (int what = 0; what < PERSON_QUESTIONS; what++) with = mixed(with, about(person, what));
+        return mixed(with, rest(person));
     }
 
     private long withGift(long h, int gift) {
-        long mixed = h;
-        for (int what = 0; what < GIFT_QUESTIONS; what++) mixed = mixed(mixed, told(gift, what));
-        if (!world.row[gift].lives()) return mixed;
-        return mixed(mixed(mixed, may(gift)), soonest(gift));
+        long with = h;
+        for (int what = 0; what < GIFT_QUESTIONS; what++) with = mixed(with, told(gift, what));
+        if (!world.row[gift].lives()) return with;
+        with = mixed(with, may(gift));
+        return mixed(with, soonest(gift));
     }
 
     private boolean isPerson(int n) {
