@@ -87,6 +87,9 @@ public final class BookTest {
         x.open(0, 2);
         x.write(2, 0);
         check.due("28: home is never written rightly", x.filled(), 0);
+        x.open(1, 1);
+        x.know(1, 2, false);
+        check.due("29: person 0", x.sure(1), 0);
         GivenGoesOn y = new GivenGoesOn();
         for (int i = 0; i < 8; i++) y.person(0);
         for (int a = 0; a < 8; a++) {

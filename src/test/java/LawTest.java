@@ -100,6 +100,13 @@ public final class LawTest {
         check.due("4: blank", faultOf(" k1"), 0);
         check.due("4: behind the whole", faultOf("k3bow9o"), 6);
         check.due("4: sixteen letters", faultOf("k3bow9oooooooooo"), 6);
+        GivenGoesOn x = new GivenGoesOn();
+        x.letters(Check.packed("k2bx"));
+        x.blank();
+        x.letters(Check.packed("k2"));
+        check.due("4: letters that are gone", x.fault(), 2);
+        check.due("5: letters that are gone", x.law(), 1);
+        check.due("6: letters that are gone", x.lawTold(1), 0);
     }
 
     private static void lawDue(String text, int keep, int back, int one, int most) {

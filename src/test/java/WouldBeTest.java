@@ -230,6 +230,7 @@ public final class WouldBeTest {
         check.due("24: by the least", x.stranger(0, 3, 1), 2);
         check.due("24: four", x.stranger(6, 0, 0), 4);
         check.due("24: by the only one", x.stranger(6, 0, 1), 5);
+        check.due("24: by person 0", x.stranger(2, 4, 1), 0);
         check.due("24: it can't", x.stranger(0, 7, 0), NONE);
         check.due("24: it can't, by nobody", x.stranger(0, 7, 1), NONE);
         GivenGoesOn y = Check.people(new GivenGoesOn(), 0, 0, 0, 0, 0, 0, 0, 0);
