@@ -18,6 +18,8 @@ public final class LawEdgesTest {
         blankOfNoneAndOfSixteen();
         faultOfEachLetterBehindEachBeginning();
         faultOfAFullPage();
+        behindAFaultNoLawBegins();
+        lettersThatAreGoneAreNotRead();
         faultReadsNothing();
         eachLawIsRead();
         untoldIsAsAtFirst();
@@ -169,6 +171,34 @@ public final class LawEdgesTest {
         check.due("4: the longest law and more", withPage("k3bow9bbbbbbbbbb").fault(), 6);
         check.due("4: at first", withPage("xk3bow9xxxxxxxxx").fault(), 0);
         check.due("4: the first of many", withPage("k1xbxox").fault(), 2);
+    }
+
+    // "of the first letter": a whole law behind it mends nothing
+    private static void behindAFaultNoLawBegins() {
+        String[] faulty = {"x", " ", "K", "1", "k0", "k4", "kk", "kb", "w0", "ww", "bb", "oo", "ob", "w3o", "k1k"};
+        int[] places = {0, 0, 0, 0, 1, 1, 1, 1, 1, 1, 1, 1, 1, 2, 2};
+        for (int i = 0; i < faulty.length; i++) {
+            for (String law : LAWS) {
+                GivenGoesOn x = withPage(faulty[i] + law);
+                check.due("4: " + faulty[i] + law, x.fault(), places[i]);
+                check.due("5: " + faulty[i] + law, x.law(), STATE);
+            }
+        }
+    }
+
+    // "THE PAGE is empty": behind a shorter text nothing of the one that was blanked is left
+    private static void lettersThatAreGoneAreNotRead() {
+        for (String gone : LAWS) {
+            for (String law : LAWS) {
+                GivenGoesOn x = withPage(gone);
+                x.blank();
+                x.letters(Check.packed(law));
+                check.due("4: " + law + " behind the blanked " + gone, x.fault(), law.length());
+                check.due("5: " + law + " behind the blanked " + gone, x.law(), 1);
+                check.due("6: KEEP of " + law + " behind the blanked " + gone, x.lawTold(0), behind(law, 'k', 1));
+                check.due("6: MOST of " + law + " behind the blanked " + gone, x.lawTold(3), behind(law, 'w', 3));
+            }
+        }
     }
 
     private static void faultReadsNothing() {

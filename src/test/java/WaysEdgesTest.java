@@ -184,6 +184,13 @@ public final class WaysEdgesTest {
         GivenGoesOn z = ring(new GivenGoesOn(), 8);
         z.gift(PLAIN, 7);
         check.due("20: round eight", z.soonest(0), 8);
+        // At 1, the third on the way, it may turn by either of two ends: parts of ways to the eighth would wrap a long.
+        GivenGoesOn v = Check.people(Check.withLaw("b"), 0, 0, 0, 0, 0, 0, 0, 0);
+        Check.chain(v, 6, 4, 3, 1, 2);
+        Check.chain(v, 5, 1, 0, 7);
+        v.gift(PLAIN, 6);
+        check.due("20: by two ends in eight", v.soonest(0), 8);
+        check.due("19: by two ends in eight", v.ways(0, 8), 2);
     }
 
     private static void soonestIsTheLeastThatHasAny() {
