@@ -25,10 +25,13 @@ public final class FaceTest {
         constants();
         members();
         namesOfPrivateMethods(GivenGoesOn.class);
+        sizes(GivenGoesOn.class);
+        check.due("some twelve classes", GivenGoesOn.class.getDeclaredClasses().length <= 11 ? 1 : 0, 1);
         for (Class<?> inside : GivenGoesOn.class.getDeclaredClasses()) {
             check.due(inside + " is static", Modifier.isStatic(inside.getModifiers()) ? 1 : 0, 1);
             check.due(inside + " is not public", Modifier.isPublic(inside.getModifiers()) ? 1 : 0, 0);
             namesOfPrivateMethods(inside);
+            sizes(inside);
         }
         source();
         check.end();
@@ -75,6 +78,20 @@ public final class FaceTest {
                 boolean same = one.contains(" " + m.getName() + "(");
                 check.due(type + "." + m.getName() + " bears a public name", same ? 1 : 0, 0);
             }
+        }
+    }
+
+    /** LANGUAGE.md's rules 5 and 11, as far as they are seen from outside. */
+    private static void sizes(Class<?> type) {
+        int fields = 0;
+        for (Field f : type.getDeclaredFields()) {
+            boolean isStatic = Modifier.isStatic(f.getModifiers());
+            if (!isStatic) fields++;
+            check.due(type + "." + f.getName() + " is final", !isStatic || Modifier.isFinal(f.getModifiers()) ? 1 : 0, 1);
+        }
+        check.due("some twenty fields of " + type, fields <= 20 ? 1 : 0, 1);
+        for (Method m : type.getDeclaredMethods()) {
+            check.due("seven parameters of " + type + "." + m.getName(), m.getParameterCount() <= 7 ? 1 : 0, 1);
         }
     }
 

@@ -15,6 +15,8 @@ public final class PeopleEdgesTest {
         asBitsOfNobodyAndOfAll();
         owedNothingAtFirst();
         owedByEachPair();
+        eachOwesTheOther();
+        whoKnowNoMoreLikeAndOweAsBefore();
         restMayBeBelow0();
         restOfOneAlone();
         check.end();
@@ -172,6 +174,36 @@ public final class PeopleEdgesTest {
                 check.due("12: rest of the giver", x.rest(giver), 10);
                 check.due("12: rest of the taker", x.rest(taker), -10);
             }
+        }
+    }
+
+    // "thanks owed so far" - what comes the other way lessens nothing of it
+    private static void eachOwesTheOther() {
+        GivenGoesOn x = Check.chain(Check.people(new GivenGoesOn(), 0, 0), 0, 1);
+        x.gift(2, 0);
+        x.gift(2, 1);
+        x.gift(0, 1);
+        for (int g = 0; g < 3; g++) x.give(g, g == 0 ? 1 : 0);
+        check.due("11: 1 owes 0", x.owes(1, 0), 10);
+        check.due("11: 0 owes 1", x.owes(0, 1), 20);
+        check.due("12: rest of 0", x.rest(0), -10);
+        check.due("12: rest of 1", x.rest(1), 10);
+    }
+
+    // LIKING and what is OWED are told of any two, whether they KNOW each other or not
+    private static void whoKnowNoMoreLikeAndOweAsBefore() {
+        GivenGoesOn x = Check.chain(Check.people(new GivenGoesOn(), 0, 0), 0, 1);
+        x.like(0, 1, 4);
+        x.like(1, 0, 9);
+        x.gift(0, 0);
+        x.give(0, 1);
+        for (int i = 0; i < 2; i++) {
+            x.know(0, 1, i == 1);
+            check.due("9: liking stays", x.like(0, 1, 4), 4);
+            check.due("9: liking of the other stays", x.like(1, 0, 9), 9);
+            check.due("11: owed still", x.owes(1, 0), 10);
+            check.due("12: rest", x.rest(0), 10);
+            check.due("14: FROM stays", x.told(0, 3), 0);
         }
     }
 

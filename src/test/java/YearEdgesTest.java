@@ -20,10 +20,12 @@ public final class YearEdgesTest {
         whoGotOneMayGiveOne();
         whatCouldNotGoDoesNotCount();
         whatDiedOrBrokeCounts();
+        eachKindCountsAndWaits();
         oneEachYearAnew();
         itWaitsForNobody();
         diesHomeWithAFeast();
         breaksWithoutAFeast();
+        brokenByANewLawOnlyWhenGiven();
         longYears();
         check.end();
     }
@@ -279,6 +281,24 @@ public final class YearEdgesTest {
         check.due("18: the other waits", y.told(1, 2), 2);
     }
 
+    // By "o" each kind is ONE GIFT: it counts, and waits for one of any kind
+    private static void eachKindCountsAndWaits() {
+        for (int first = 0; first < 5; first++) {
+            for (int second = 0; second < 5; second++) {
+                GivenGoesOn x = Check.people(Check.withLaw("o"), 0, 0);
+                x.gift(first, 0);
+                x.gift(second, 0);
+                x.years(2);
+                x.know(0, 1, true);
+                String kinds = first + " ahead of " + second;
+                check.due("18: one, " + kinds, x.years(1), 1);
+                check.due("18: the first went, " + kinds, x.told(0, 2), 1);
+                check.due("18: the second waits, " + kinds, x.told(1, 2), 0);
+                check.due("14: KEPT on, " + kinds, x.told(1, 5), 3);
+            }
+        }
+    }
+
     // "in this YEAR" - in the next one each gives one again
     private static void oneEachYearAnew() {
         GivenGoesOn x = star(0, 1);
@@ -326,6 +346,25 @@ public final class YearEdgesTest {
         check.due("14: broke at the door", x.told(0, 7) + 10 * x.told(0, 2), BROKE + 20);
         check.due("14: broke on the way", x.told(1, 7), BROKE);
         check.due("32: no feast", x.count(4), 0);
+    }
+
+    // A CUP breaks when it is GIVEN: by a law that is read later what is worn lives until then
+    private static void brokenByANewLawOnlyWhenGiven() {
+        for (int kind : new int[] {CUP, SPOON}) {
+            GivenGoesOn x = ring(Check.withLaw("w9"), 6, 0);
+            x.gift(kind, 3);
+            x.years(2);
+            int wear = kind == CUP ? 2 : 4;
+            check.due("14: worn", x.told(0, 4), wear);
+            x.letters(Check.packed("k2w1"));
+            x.law();
+            check.due("14: it lives by the new law", x.told(0, 7), LIVES);
+            check.due("14: worth by the new law", x.told(0, 6), 10 - wear);
+            check.due("18: kept for a year", x.years(1), 0);
+            check.due("14: it lives when kept", x.told(0, 7), LIVES);
+            check.due("18: given", x.years(1), 1);
+            check.due("14: it broke then", x.told(0, 7), BROKE);
+        }
     }
 
     /**
