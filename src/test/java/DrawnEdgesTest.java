@@ -20,6 +20,7 @@ public final class DrawnEdgesTest {
         feastsInTheseYears();
         howManyLiveThen();
         nothingIsChanged();
+        asItIsNowNotAsInTheImage();
         theSameSeedTheSameYears();
         check.end();
     }
@@ -199,6 +200,23 @@ public final class DrawnEdgesTest {
         x.drawn(30, 11, 0);
         x.restore();
         check.due("25: nor the IMAGE", allTold(x).equals(ahead) ? 1 : 0, 1);
+    }
+
+    // "as they would be": from what stands now, whatever an IMAGE keeps
+    private static void asItIsNowNotAsInTheImage() {
+        GivenGoesOn x = ring(new GivenGoesOn(), 3);
+        x.image();
+        x.gift(PLAIN, 0);
+        check.due("25: a GIFT that came since", x.drawn(3, 4, GIVEN), 3);
+        x.image();
+        x.years(2);
+        check.due("25: only one YEAR more", x.drawn(3, 4, GIVEN), 1);
+        x.know(0, 1, false);
+        x.know(0, 2, false);
+        check.due("25: who KNOW no more", x.drawn(3, 4, LIVE), 1);
+        x.restore();
+        check.due("25: as in the IMAGE again", x.drawn(3, 4, GIVEN), 3);
+        check.due("25: and its feast", x.drawn(3, 4, FEASTS), 1);
     }
 
     private static void theSameSeedTheSameYears() {

@@ -15,6 +15,7 @@ public final class WaysEdgesTest {
         backByLawOnTheWay();
         keepDoesNotMatter();
         itDoesNotBreak();
+        asIfItWereAlone();
         asManyAsThereCanBe();
         soonestOfEight();
         soonestIsTheLeastThatHasAny();
@@ -146,6 +147,17 @@ public final class WaysEdgesTest {
             GivenGoesOn y = ring(Check.withLaw("w1"), 7);
             y.gift(kind, 0);
             likelyDue("unbroken", y, 7, 1, 1);
+        }
+    }
+
+    // "if it went on each YEAR": by "o", too, whatever else its HOLDER has
+    private static void asIfItWereAlone() {
+        GivenGoesOn x = ring(Check.withLaw("o"), 3);
+        for (int g = 0; g < 8; g++) x.gift(PLAIN, 0);
+        for (int g = 0; g < 8; g++) {
+            for (int n = 1; n <= 8; n++) check.due("19: one of eight in " + n, x.ways(g, n), n == 3 ? 2 : 0);
+            check.due("20: one of eight", x.soonest(g), 3);
+            check.due("21: one of eight", x.likely(g, 3, 0), 1);
         }
     }
 
